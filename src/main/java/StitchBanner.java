@@ -251,7 +251,7 @@ public final class StitchBanner {
             throw new IndexOutOfBoundsException("banner");
         }
         int dots = ROWS * asked.columns;
-        return dots < 1 ? 0 : (float) asked.errorSum() / (float) dots;
+        return dots < 1 ? 0f : (float) asked.errorSum() / (float) dots;
     }
 
     private void startIdlePrinters() {
@@ -271,7 +271,7 @@ public final class StitchBanner {
         for (int i = 0; i < banners.length; i++) {
             Banner banner = banners[i];
             // Only an earlier due time goes before a banner of a lower number.
-            if (banner == null || earliest != null && banner.due >= earliest.due) {
+            if (banner == null || (earliest != null && banner.due >= earliest.due)) {
                 continue;
             }
             Strip strip = banner.firstWaitingFor(printerNumber);
@@ -349,7 +349,8 @@ public final class StitchBanner {
         private final int number;
         private final int first;
         private final int end;
-        // The columns before leftEnd belong to the strip at the left too, those from rightStart on to that at the right.
+        // The columns before leftEnd belong to the strip at the left too,
+        // those from rightStart on to the strip at the right.
         private final int leftEnd;
         private final int rightStart;
         private final Dots laid = new Dots();
@@ -384,7 +385,6 @@ public final class StitchBanner {
     /** A picture on cloth, its strips, and the ink on it. */
     private static final class Banner {
         private final int columns;
-        private final int overlap;
         private final int limit;
         private final int due;
         private final Dots levels = new Dots();
@@ -396,7 +396,6 @@ public final class StitchBanner {
 
         Banner(int columns, int width, int overlap, int limit, int due) {
             this.columns = columns;
-            this.overlap = overlap;
             this.limit = limit;
             this.due = due;
             int step = width - overlap;
@@ -483,9 +482,9 @@ public final class StitchBanner {
         }
 
         int seamError(Strip left, Strip right) {
-            int lastOfLeft = left.end - 1;
-            int from = overlap > 0 ? right.first : lastOfLeft;
-            int to = overlap > 0 ? lastOfLeft : right.first;
+            // Without overlap the right one begins behind the last column of the left one, and both columns count.
+            int from = Math.min(left.end - 1, right.first);
+            int to = Math.max(left.end - 1, right.first);
             int greatest = 0;
             for (int row = 0; row < ROWS; row++) {
                 for (int column = from; column <= to; column++) {
