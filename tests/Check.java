@@ -26,6 +26,11 @@ final class Check {
         }
     }
 
+    /** The ints outside of a range: the first too small, the first too large, and both ends of the ints. */
+    static int[] outside(int least, int most) {
+        return new int[] {least - 1, most + 1, Integer.MIN_VALUE, Integer.MAX_VALUE};
+    }
+
     static void index(String what, Call call) {
         due(what, IndexOutOfBoundsException.class, call);
     }
